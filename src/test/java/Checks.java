@@ -1,0 +1,87 @@
+import java.util.NoSuchElementException;
+
+/** Counts the answers of one test that are not as due, and ends the test by them. */
+final class Checks {
+    private int asked = 0;
+    private int wrong = 0;
+
+    void due(String call, long got, long want) {
+        due(call, Long.toString(got), Long.toString(want));
+    }
+
+    void due(String call, boolean got, boolean want) {
+        due(call, Boolean.toString(got), Boolean.toString(want));
+    }
+
+    void due(String call, String got, String want) {
+        asked++;
+        if (!got.equals(want)) {
+            wrong++;
+            if (wrong <= 50) {
+                System.out.println(call + " answered " + got + ", due is " + want);
+            }
+        }
+    }
+
+    /** The five parts of an AMPLITUDE, or what asking for it throws. */
+    static String amplitude(PathSums x, int input, int output) {
+        StringBuilder parts = new StringBuilder();
+        for (int part = 0; part < 5; part++) {
+            parts.append(part == 0 ? "" : " ").append(part(x, input, output, part));
+        }
+        return parts.toString();
+    }
+
+    static String part(PathSums x, int input, int output, int part) {
+        try {
+            return Long.toString(x.value(input, output, part));
+        } catch (NoSuchElementException e) {
+            return "throws.NoSuchElementException";
+        } catch (ArithmeticException e) {
+            return "throws.ArithmeticException";
+        }
+    }
+
+    /** All that the object shows but its AMPLITUDES. */
+    static String state(PathSums x) {
+        StringBuilder text = new StringBuilder();
+        for (int what = 0; what <= 6; what++) {
+            text.append(x.total(what)).append(' ');
+        }
+        text.append("h ").append(x.halves());
+        for (int i = 0; i < 6; i++) {
+            text.append(" wire ").append(x.wire(i, 0)).append('+').append(x.wire(i, 1));
+        }
+        for (int i = 0; i < x.total(4); i++) {
+            text.append(" rule ").append(x.rule(i, 0)).append(' ').append(x.rule(i, 1)).append(' ').append(x.rule(i, 2));
+        }
+        text.append(" terms").append(terms(x));
+        return text.toString();
+    }
+
+    /** The MONOMIALS that are there, in the order of their sets. */
+    static String terms(PathSums x) {
+        java.util.TreeMap<Integer, Integer> found = new java.util.TreeMap<>();
+        int came = x.total(2);
+        for (int i = 0; i <= came; i++) {
+            for (int j = 0; j <= i; j++) {
+                for (int k = 0; k <= j; k++) {
+                    int set = (1 << i | 1 << j | 1 << k) & (1 << came) - 1;
+                    if (x.term(set) != 0) {
+                        found.put(set, x.term(set));
+                    }
+                }
+            }
+        }
+        StringBuilder text = new StringBuilder();
+        found.forEach((set, number) -> text.append(' ').append(number).append('*').append(set));
+        return text.toString();
+    }
+
+    void end() {
+        System.out.println(asked + " answers, " + wrong + " not as due");
+        if (wrong != 0 || asked == 0) {
+            System.exit(1);
+        }
+    }
+}
