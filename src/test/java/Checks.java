@@ -78,6 +78,11 @@ final class Checks {
         return text.toString();
     }
 
+    void addTo(Checks all) {
+        all.asked += asked;
+        all.wrong += wrong;
+    }
+
     void end() {
         System.out.println(asked + " answers, " + wrong + " not as due");
         if (wrong != 0 || asked == 0) {
