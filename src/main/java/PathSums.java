@@ -43,7 +43,7 @@ public final class PathSums {
     private int inputBits;
     private int rootsBelow;
     private boolean begunOpen;
-    private boolean cancelled;
+    private boolean empty;
 
     public PathSums() {
         startAnew(1, false);
@@ -75,7 +75,7 @@ public final class PathSums {
     }
 
     public boolean gate(int kind, int a, int b, int c) {
-        if (cancelled || !fits(kind, a, b, c)) {
+        if (empty || !fits(kind, a, b, c)) {
             return false;
         }
         if (kind == X) {
@@ -140,7 +140,7 @@ public final class PathSums {
         if (Integer.bitCount(counted) > MOST_COUNTED) {
             throw new ArithmeticException("too many bits to count out");
         }
-        if (cancelled) {
+        if (empty) {
             return 0;
         }
         findAmplitude(counted, inputBits & input, output);
@@ -154,7 +154,7 @@ public final class PathSums {
             case 2: return bitsCame;
             case 3: return polynomial.monomials;
             case 4: return doneRules.count;
-            case 5: return cancelled ? 1 : 0;
+            case 5: return empty ? 1 : 0;
             case 6: return begunOpen ? 1 : 0;
             default: return NONE;
         }
@@ -190,7 +190,7 @@ public final class PathSums {
         inputBits = 0;
         rootsBelow = 0;
         begunOpen = asOpen;
-        cancelled = false;
+        empty = false;
     }
 
     private boolean fits(int kind, int a, int b, int c) {
@@ -261,7 +261,7 @@ public final class PathSums {
         int z = kind == BOUND_BITS ? greatestOf(partners & ~inputBits) : NONE;
         doneRules.keep(kind, y, z);
         if (kind == CANCELLED) {
-            cancelAll();
+            becomeEmpty();
             return;
         }
         polynomial.replaceBit(y, 0);
@@ -287,14 +287,14 @@ public final class PathSums {
         return NONE;
     }
 
-    private void cancelAll() {
+    private void becomeEmpty() {
         for (int i = 0; i < MOST_WIRES; i++) {
             values[i] &= inputBits | ONE;
         }
         polynomial.clear();
         bitsThere = inputBits;
         rootsBelow = 0;
-        cancelled = true;
+        empty = true;
     }
 
     private void replaceInValues(int z, int others) {

@@ -180,7 +180,7 @@ public final class ValueTest {
         CHECKS.due("EMPTY, part 5", Checks.part(x, 0, 0, 5), NO_SUCH);
     }
 
-    /** 512 of the dearest calls make nothing and come to an end soon. */
+    /** Some 500 of the dearest calls: what one of them leaves in the rows does not touch the next. */
     private static void manyDearCalls() {
         PathSums x = withBits(true, 6, 12);
         for (int i = 1; i < 6; i++) {
