@@ -16,18 +16,12 @@ public final class AskTest {
         CHECKS.end();
     }
 
-    private static void gates(PathSums x, int[]... gates) {
-        for (int[] g : gates) {
-            CHECKS.due("gate " + java.util.Arrays.toString(g), x.gate(g[0], g[1], g[2], g[3]), true);
-        }
-    }
-
     private static void termsOfSets() {
         PathSums x = new PathSums();
         x.open(3);
         CHECKS.due("term(0) of no MONOMIALS", x.term(0), 0);
         CHECKS.due("term(7) of no MONOMIALS", x.term(7), 0);
-        gates(x, new int[]{1, 0, 1, 0}, new int[]{0, 0, 0, 0}, new int[]{7, 0, 0, 0}, new int[]{9, 0, 1, 2});
+        CHECKS.gates(x, new int[]{1, 0, 1, 0}, new int[]{0, 0, 0, 0}, new int[]{7, 0, 0, 0}, new int[]{9, 0, 1, 2});
         // 7 - 7*(x + y - 2xy), and 4*(1 + x + y)yz = 4xyz, for 4yz comes twice
         int[] due = {7, 1, 1, 6, 0, 0, 0, 4};
         for (int set = 0; set < 8; set++) {
@@ -48,7 +42,7 @@ public final class AskTest {
             CHECKS.due("four BITS, term(" + set + ")", x.term(set), 0);
         }
         for (int i = 4; i < 24; i++) {
-            gates(x, new int[]{11, 0, 0, 0});
+            CHECKS.gates(x, new int[]{11, 0, 0, 0});
             CHECKS.due("the newest BIT, term", x.term(1 << i | 1), 4);
             CHECKS.due("the next BIT, term", x.term(2 << i), -1);
         }
@@ -61,18 +55,18 @@ public final class AskTest {
 
     private static void termsOfBitsThatAreGone() {
         PathSums x = new PathSums();
-        gates(x, new int[]{10, 0, 0, 0}, new int[]{10, 0, 0, 0});
+        CHECKS.gates(x, new int[]{10, 0, 0, 0}, new int[]{10, 0, 0, 0});
         CHECKS.due("term(3)", x.term(3), 4);
         CHECKS.due("reduce()", x.reduce(), 1);
         for (int set = 0; set < 4; set++) {
             CHECKS.due("gone, term(" + set + ")", x.term(set), 0);
         }
-        gates(x, new int[]{10, 0, 0, 0}, new int[]{5, 0, 0, 0});
+        CHECKS.gates(x, new int[]{10, 0, 0, 0}, new int[]{5, 0, 0, 0});
         CHECKS.due("the new BIT has a new number", x.wire(0, 0), 4);
         CHECKS.due("term(4)", x.term(4), 1);
         CHECKS.due("term(7)", x.term(7), 0);
         x.begin(1, 1);
-        gates(x, new int[]{11, 0, 0, 0});
+        CHECKS.gates(x, new int[]{11, 0, 0, 0});
         x.reduce();
         CHECKS.due("EMPTY, term(1)", x.term(1), 0);
         CHECKS.due("EMPTY, term(0)", x.term(0), 0);
@@ -84,11 +78,11 @@ public final class AskTest {
         PathSums x = new PathSums();
         x.begin(6, 0);
         for (int i = 0; i < 24; i++) {
-            gates(x, new int[]{10, i % 5, 0, 0}, new int[]{1, 5, i % 5, 0});
+            CHECKS.gates(x, new int[]{10, i % 5, 0, 0}, new int[]{1, 5, i % 5, 0});
         }
         CHECKS.due("wire 5 has all BITS", x.wire(5, 0), (1 << 24) - 1);
         int before = x.total(3);
-        gates(x, new int[]{5, 5, 0, 0});
+        CHECKS.gates(x, new int[]{5, 5, 0, 0});
         int ones = 0;
         int pairs = 0;
         for (int i = 0; i < 24; i++) {
@@ -105,7 +99,7 @@ public final class AskTest {
         CHECKS.due("terms of one BIT", ones, 24);
         CHECKS.due("terms of two BITS", pairs, 276);
         CHECKS.due("total(3)", x.total(3), 24 + 276 + 2024);
-        gates(x, new int[]{0, 5, 0, 0}, new int[]{5, 5, 0, 0});
+        CHECKS.gates(x, new int[]{0, 5, 0, 0}, new int[]{5, 5, 0, 0});
         CHECKS.due("with t of 1 - that, 1 and the pairs of before are left", x.total(3), 20);
         CHECKS.due("term(0)", x.term(0), 1);
     }
@@ -113,7 +107,7 @@ public final class AskTest {
     private static void wires() {
         PathSums x = new PathSums();
         x.open(6);
-        gates(x, new int[]{0, 5, 0, 0}, new int[]{1, 4, 5, 0}, new int[]{10, 0, 0, 0});
+        CHECKS.gates(x, new int[]{0, 5, 0, 0}, new int[]{1, 4, 5, 0}, new int[]{10, 0, 0, 0});
         int[] sets = {64, 2, 4, 8, 48, 32};
         int[] constants = {0, 0, 0, 0, 1, 1};
         for (int i = 0; i < 6; i++) {
@@ -149,12 +143,12 @@ public final class AskTest {
         totalsAre("new", x, 1, 0, 0, 0, 0, 0, 0);
         x.open(3);
         totalsAre("open", x, 3, 7, 3, 0, 0, 0, 1);
-        gates(x, new int[]{10, 1, 0, 0}, new int[]{10, 1, 0, 0}, new int[]{10, 1, 0, 0}, new int[]{5, 1, 0, 0});
+        CHECKS.gates(x, new int[]{10, 1, 0, 0}, new int[]{10, 1, 0, 0}, new int[]{10, 1, 0, 0}, new int[]{5, 1, 0, 0});
         totalsAre("with gates", x, 3, 63, 6, 4, 0, 0, 1);
         x.reduce();
         // 4*b3*b1 + 4*b3*b4 + 4*b4*b5 + b5: b4 is b1, then b5 is left
         totalsAre("reduced", x, 3, 39, 6, 2, 1, 0, 1);
-        gates(x, new int[]{10, 0, 0, 0}, new int[]{11, 0, 0, 0}, new int[]{12, 0, 0, 0});
+        CHECKS.gates(x, new int[]{10, 0, 0, 0}, new int[]{11, 0, 0, 0}, new int[]{12, 0, 0, 0});
         x.reduce();
         totalsAre("EMPTY", x, 3, 7, 9, 0, 3, 1, 1);
         x.begin(2, 0);
@@ -164,9 +158,9 @@ public final class AskTest {
     private static void totalsOfMonomials() {
         PathSums x = new PathSums();
         x.begin(1, 1);
-        gates(x, new int[]{5, 0, 0, 0});
+        CHECKS.gates(x, new int[]{5, 0, 0, 0});
         CHECKS.due("that of no BIT counts, too", x.total(3), 1);
-        gates(x, new int[]{7, 0, 0, 0});
+        CHECKS.gates(x, new int[]{7, 0, 0, 0});
         CHECKS.due("8 is 0", x.total(3), 0);
     }
 
@@ -174,7 +168,7 @@ public final class AskTest {
         PathSums x = new PathSums();
         int[][] gates = {{10, 1}, {10, 2}, {11, 4}, {12, 6}, {5, 6}, {0, 6}};
         for (int[] g : gates) {
-            gates(x, new int[]{g[0], 0, 0, 0});
+            CHECKS.gates(x, new int[]{g[0], 0, 0, 0});
             CHECKS.due("halves() behind " + g[0], x.halves(), g[1]);
         }
         x.begin(1, 0);
@@ -184,7 +178,7 @@ public final class AskTest {
     private static void askingChangesNothing() {
         PathSums x = new PathSums();
         x.open(2);
-        gates(x, new int[]{10, 0, 0, 0}, new int[]{4, 0, 0, 0}, new int[]{10, 0, 0, 0});
+        CHECKS.gates(x, new int[]{10, 0, 0, 0}, new int[]{4, 0, 0, 0}, new int[]{10, 0, 0, 0});
         String before = Checks.state(x);
         Checks.amplitude(x, 1, 2);
         Checks.amplitude(x, 4, 4);

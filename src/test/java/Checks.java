@@ -23,6 +23,13 @@ final class Checks {
         }
     }
 
+    /** Gates (kind, a, b, c) that are all to be taken. */
+    void gates(PathSums x, int[]... gates) {
+        for (int[] g : gates) {
+            due("gate " + java.util.Arrays.toString(g), x.gate(g[0], g[1], g[2], g[3]), true);
+        }
+    }
+
     /** The five parts of an AMPLITUDE, or what asking for it throws. */
     static String amplitude(PathSums x, int input, int output) {
         StringBuilder parts = new StringBuilder();

@@ -24,9 +24,7 @@ public final class ReduceTest {
     }
 
     private static PathSums with(PathSums x, int[]... gates) {
-        for (int[] g : gates) {
-            CHECKS.due("gate " + java.util.Arrays.toString(g), x.gate(g[0], g[1], g[2], g[3]), true);
-        }
+        CHECKS.gates(x, gates);
         return x;
     }
 

@@ -19,12 +19,6 @@ public final class ValueTest {
         CHECKS.end();
     }
 
-    private static void gates(PathSums x, int[]... gates) {
-        for (int[] g : gates) {
-            CHECKS.due("gate " + java.util.Arrays.toString(g), x.gate(g[0], g[1], g[2], g[3]), true);
-        }
-    }
-
     private static void phases() {
         PathSums x = new PathSums();
         x.begin(1, 1);
@@ -32,30 +26,30 @@ public final class ValueTest {
         for (int i = 0; i < 16; i++) {
             CHECKS.due("w^" + i, Checks.amplitude(x, 0, 1), due[i % 8]);
             CHECKS.due("w^" + i + ", elsewhere", Checks.amplitude(x, 0, 0), "0 0 0 0 0");
-            gates(x, new int[]{5, 0, 0, 0});
+            CHECKS.gates(x, new int[]{5, 0, 0, 0});
         }
     }
 
     private static void theLeastRoot() {
         PathSums x = new PathSums();
-        gates(x, new int[]{10, 0, 0, 0});
+        CHECKS.gates(x, new int[]{10, 0, 0, 0});
         CHECKS.due("1 / r", Checks.amplitude(x, 0, 0), "1 0 0 0 1");
         CHECKS.due("1 / r", Checks.amplitude(x, 0, 1), "1 0 0 0 1");
-        gates(x, new int[]{4, 0, 0, 0}, new int[]{10, 0, 0, 0});
+        CHECKS.gates(x, new int[]{4, 0, 0, 0}, new int[]{10, 0, 0, 0});
         // (1 + w^2) / 2 = w * r / 2 = w / r
         CHECKS.due("w / r", Checks.amplitude(x, 0, 0), "0 1 0 0 1");
         // (1 - w^2) / 2 = w^7 / r = -w^3 / r
         CHECKS.due("-w^3 / r", Checks.amplitude(x, 0, 1), "0 0 0 -1 1");
         x.begin(1, 0);
-        gates(x, new int[]{10, 0, 0, 0}, new int[]{5, 0, 0, 0}, new int[]{10, 0, 0, 0});
+        CHECKS.gates(x, new int[]{10, 0, 0, 0}, new int[]{5, 0, 0, 0}, new int[]{10, 0, 0, 0});
         CHECKS.due("(1 + w) / r^2", Checks.amplitude(x, 0, 0), "1 1 0 0 2");
         CHECKS.due("(1 - w) / r^2", Checks.amplitude(x, 0, 1), "1 -1 0 0 2");
         x.begin(1, 0);
-        gates(x, new int[]{10, 0, 0, 0}, new int[]{10, 0, 0, 0});
+        CHECKS.gates(x, new int[]{10, 0, 0, 0}, new int[]{10, 0, 0, 0});
         CHECKS.due("2 / r^2 is 1", Checks.amplitude(x, 0, 0), "1 0 0 0 0");
         CHECKS.due("of 0 all are 0", Checks.amplitude(x, 0, 1), "0 0 0 0 0");
         x.begin(1, 0);
-        gates(x, new int[]{10, 0, 0, 0}, new int[]{10, 0, 0, 0}, new int[]{10, 0, 0, 0});
+        CHECKS.gates(x, new int[]{10, 0, 0, 0}, new int[]{10, 0, 0, 0}, new int[]{10, 0, 0, 0});
         CHECKS.due("2 / r^3 is 1 / r", Checks.amplitude(x, 0, 1), "1 0 0 0 1");
     }
 
@@ -63,16 +57,16 @@ public final class ValueTest {
         PathSums x = new PathSums();
         x.begin(6, 0);
         for (int i = 0; i < 6; i++) {
-            gates(x, new int[]{10, i, 0, 0});
+            CHECKS.gates(x, new int[]{10, i, 0, 0});
         }
         for (int i = 0; i < 6; i++) {
-            gates(x, new int[]{10, i, 0, 0});
+            CHECKS.gates(x, new int[]{10, i, 0, 0});
         }
         CHECKS.due("h twice of six WIRES, 12 BITS", Checks.amplitude(x, 0, 0), "1 0 0 0 0");
         CHECKS.due("to 63", Checks.amplitude(x, 0, 63), "0 0 0 0 0");
         x.begin(6, 0);
         for (int i = 0; i < 6; i++) {
-            gates(x, new int[]{10, i, 0, 0}, new int[]{5, i, 0, 0}, new int[]{10, i, 0, 0});
+            CHECKS.gates(x, new int[]{10, i, 0, 0}, new int[]{5, i, 0, 0}, new int[]{10, i, 0, 0});
         }
         // (1 + w)^6 / r^12 = (1 + 6w + 15w^2 + 20w^3 - 15 - 6w - w^2) / r^12 = (-14 + 14w^2 + 20w^3) / r^12
         // = (-7 + 7w^2 + 10w^3) / r^10 = (-5 + 5w^2 + 7w^3) / r^9, for (-5 + 5w^2 + 7w^3) * r = -7 + 7w^2 + 10w^3
@@ -103,12 +97,12 @@ public final class ValueTest {
     private static void theInputCountsForNothing() {
         PathSums x = new PathSums();
         x.begin(2, 1);
-        gates(x, new int[]{10, 0, 0, 0}, new int[]{10, 1, 0, 0});
+        CHECKS.gates(x, new int[]{10, 0, 0, 0}, new int[]{10, 1, 0, 0});
         for (int input : new int[]{0, 1, 2, 3, 4, -1, Integer.MIN_VALUE, Integer.MAX_VALUE}) {
             CHECKS.due("input " + input, Checks.amplitude(x, input, 3), "-1 0 0 0 2");
         }
         x.open(2);
-        gates(x, new int[]{10, 0, 0, 0}, new int[]{8, 0, 1, 0});
+        CHECKS.gates(x, new int[]{10, 0, 0, 0}, new int[]{8, 0, 1, 0});
         CHECKS.due("open, 0 to 1", Checks.amplitude(x, 0, 1), "1 0 0 0 1");
         CHECKS.due("open, 1 to 1", Checks.amplitude(x, 1, 1), "-1 0 0 0 1");
         CHECKS.due("open, 2 to 3", Checks.amplitude(x, 2, 3), "-1 0 0 0 1");
@@ -120,7 +114,7 @@ public final class ValueTest {
         PathSums x = new PathSums();
         CHECKS.due("begun", open ? x.open(wires) : x.begin(wires, 0), true);
         for (int i = 0; i < bits; i++) {
-            gates(x, new int[]{10, 0, 0, 0});
+            CHECKS.gates(x, new int[]{10, 0, 0, 0});
         }
         return x;
     }
@@ -150,7 +144,7 @@ public final class ValueTest {
         CHECKS.due("18 BITS are there", Integer.bitCount(x.total(1)), 18);
         CHECKS.due("6 INPUTS and 12 more, 63 to 63", Checks.amplitude(x, 63, 63), "1 0 0 0 0");
         CHECKS.due("6 INPUTS and 12 more, 63 to 62", Checks.amplitude(x, 63, 62), "0 0 0 0 0");
-        gates(x, new int[]{10, 5, 0, 0});
+        CHECKS.gates(x, new int[]{10, 5, 0, 0});
         CHECKS.due("6 INPUTS and 13 more", Checks.part(x, 63, 63, 0), TOO_MANY);
     }
 
@@ -165,7 +159,7 @@ public final class ValueTest {
     private static void empty() {
         PathSums x = new PathSums();
         x.open(2);
-        gates(x, new int[]{10, 0, 0, 0}, new int[]{11, 0, 0, 0}, new int[]{12, 0, 0, 0});
+        CHECKS.gates(x, new int[]{10, 0, 0, 0}, new int[]{11, 0, 0, 0}, new int[]{12, 0, 0, 0});
         for (int turn = 0; turn < 2; turn++) {
             for (int input = 0; input < 4; input++) {
                 for (int output = 0; output < 4; output++) {
@@ -184,7 +178,7 @@ public final class ValueTest {
     private static void manyDearCalls() {
         PathSums x = withBits(true, 6, 12);
         for (int i = 1; i < 6; i++) {
-            gates(x, new int[]{1, 0, i, 0}, new int[]{5, 0, 0, 0});
+            CHECKS.gates(x, new int[]{1, 0, i, 0}, new int[]{5, 0, 0, 0});
         }
         String first = Checks.amplitude(x, 63, 1);
         for (int i = 0; i < 100; i++) {
