@@ -4,6 +4,22 @@ import java.util.NoSuchElementException;
 final class Checks {
     private int asked = 0;
     private int wrong = 0;
+    private String sentence = "";
+    private int askedBefore = 0;
+
+    /** What is asked from here on tests this sentence of the document: "Promise n: its words". */
+    void sentence(String words) {
+        endSentence();
+        sentence = words;
+        askedBefore = asked;
+    }
+
+    private void endSentence() {
+        if (!sentence.isEmpty() && asked == askedBefore) {
+            wrong++;
+            System.out.println(sentence + " - nothing was asked");
+        }
+    }
 
     void due(String call, long got, long want) {
         due(call, Long.toString(got), Long.toString(want));
@@ -18,7 +34,8 @@ final class Checks {
         if (!got.equals(want)) {
             wrong++;
             if (wrong <= 50) {
-                System.out.println(call + " answered " + got + ", due is " + want);
+                String where = sentence.isEmpty() ? "" : sentence + " - ";
+                System.out.println(where + call + " answered " + got + ", due is " + want);
             }
         }
     }
@@ -47,6 +64,41 @@ final class Checks {
         } catch (ArithmeticException e) {
             return "throws.ArithmeticException";
         }
+    }
+
+    /** A call that is refused: it answers false, and all that the object shows is as before. */
+    void refused(String call, PathSums x, java.util.function.Predicate<PathSums> made) {
+        String before = shown(x);
+        due(call, made.test(x), false);
+        due("what is shown behind " + call, shown(x), before);
+    }
+
+    void refusedGate(PathSums x, int kind, int a, int b, int c) {
+        refused("gate(" + kind + ", " + a + ", " + b + ", " + c + ")", x, y -> y.gate(kind, a, b, c));
+    }
+
+    /** All that the object shows, with two of its AMPLITUDES. */
+    static String shown(PathSums x) {
+        int last = (1 << x.total(0)) - 1;
+        return state(x) + " from 0 to 0 " + amplitude(x, 0, 0) + " from all to all " + amplitude(x, last, last);
+    }
+
+    /** Of each WIRE its VALUE, as set+constant. */
+    static String wires(PathSums x) {
+        StringBuilder text = new StringBuilder();
+        for (int i = 0; i < x.total(0); i++) {
+            text.append(i == 0 ? "" : " ").append(x.wire(i, 0)).append('+').append(x.wire(i, 1));
+        }
+        return text.toString();
+    }
+
+    /** Of each RULE that was done [kind y z]. */
+    static String rules(PathSums x) {
+        StringBuilder text = new StringBuilder();
+        for (int i = 0; i < x.total(4); i++) {
+            text.append('[').append(x.rule(i, 0)).append(' ').append(x.rule(i, 1)).append(' ').append(x.rule(i, 2)).append(']');
+        }
+        return text.toString();
     }
 
     /** All that the object shows but its AMPLITUDES. */
@@ -91,6 +143,7 @@ final class Checks {
     }
 
     void end() {
+        endSentence();
         System.out.println(asked + " answers, " + wrong + " not as due");
         if (wrong != 0 || asked == 0) {
             System.exit(1);

@@ -26,26 +26,18 @@ public final class GateTest {
         return x;
     }
 
-    private static String wires(PathSums x) {
-        StringBuilder text = new StringBuilder();
-        for (int i = 0; i < x.total(0); i++) {
-            text.append(i == 0 ? "" : " ").append(x.wire(i, 0)).append('+').append(x.wire(i, 1));
-        }
-        return text.toString();
-    }
-
     private static void xAndSwap() {
         PathSums x = opened(3);
         CHECKS.gates(x, new int[]{0, 1, 0, 0});
-        CHECKS.due("x of 1", wires(x), "1+0 2+1 4+0");
+        CHECKS.due("x of 1", Checks.wires(x), "1+0 2+1 4+0");
         CHECKS.gates(x, new int[]{1, 0, 1, 0});
-        CHECKS.due("x of 0 with the control 1", wires(x), "3+1 2+1 4+0");
+        CHECKS.due("x of 0 with the control 1", Checks.wires(x), "3+1 2+1 4+0");
         CHECKS.gates(x, new int[]{2, 0, 2, 0});
-        CHECKS.due("0 and 2 change places", wires(x), "4+0 2+1 3+1");
+        CHECKS.due("0 and 2 change places", Checks.wires(x), "4+0 2+1 3+1");
         CHECKS.gates(x, new int[]{1, 2, 1, 0});
-        CHECKS.due("x of 2 with the control 1", wires(x), "4+0 2+1 1+0");
+        CHECKS.due("x of 2 with the control 1", Checks.wires(x), "4+0 2+1 1+0");
         CHECKS.gates(x, new int[]{0, 1, 0, 0});
-        CHECKS.due("x of 1 again", wires(x), "4+0 2+0 1+0");
+        CHECKS.due("x of 1 again", Checks.wires(x), "4+0 2+0 1+0");
         CHECKS.due("no terms", Checks.terms(x), "");
         CHECKS.due("no halves", x.halves(), 0);
         CHECKS.due("1 to 4", Checks.amplitude(x, 1, 4), "1 0 0 0 0");
@@ -60,7 +52,7 @@ public final class GateTest {
             PathSums x = opened(3);
             CHECKS.gates(x, new int[]{3 + i, 1, 0, 0});
             CHECKS.due("kind " + (3 + i), Checks.terms(x), " " + turns[i] + "*2");
-            CHECKS.due("its wires", wires(x), "1+0 2+0 4+0");
+            CHECKS.due("its wires", Checks.wires(x), "1+0 2+0 4+0");
             x.open(3);
             CHECKS.gates(x, new int[]{1, 1, 0, 0}, new int[]{3 + i, 1, 0, 0});
             CHECKS.due("of two, 1", x.term(1), turns[i]);
@@ -148,7 +140,7 @@ public final class GateTest {
         PathSums x = opened(2);
         CHECKS.gates(x, new int[]{1, 0, 1, 0}, new int[]{0, 0, 0, 0}, new int[]{10, 0, 0, 0});
         CHECKS.due("4y(1 + x0 + x1)", Checks.terms(x), " 4*4 4*5 4*6");
-        CHECKS.due("the VALUE is y", wires(x), "4+0 2+0");
+        CHECKS.due("the VALUE is y", Checks.wires(x), "4+0 2+0");
         CHECKS.due("halves()", x.halves(), 1);
         CHECKS.due("total(1)", x.total(1), 7);
         CHECKS.due("total(2)", x.total(2), 3);
@@ -158,18 +150,18 @@ public final class GateTest {
         x.begin(1, 0);
         CHECKS.gates(x, new int[]{10, 0, 0, 0});
         CHECKS.due("h of 0", Checks.terms(x), "");
-        CHECKS.due("its VALUE", wires(x), "1+0");
+        CHECKS.due("its VALUE", Checks.wires(x), "1+0");
         x.begin(1, 1);
         CHECKS.gates(x, new int[]{10, 0, 0, 0});
         CHECKS.due("h of 1", Checks.terms(x), " 4*1");
-        CHECKS.due("its VALUE", wires(x), "1+0");
+        CHECKS.due("its VALUE", Checks.wires(x), "1+0");
     }
 
     private static void measured() {
         PathSums x = opened(2);
         CHECKS.gates(x, new int[]{1, 0, 1, 0}, new int[]{0, 0, 0, 0}, new int[]{11, 0, 0, 0});
         CHECKS.due("0 of 1 + x0 + x1", Checks.terms(x), " 4*4 4*5 4*6");
-        CHECKS.due("the VALUE stays", wires(x), "3+1 2+0");
+        CHECKS.due("the VALUE stays", Checks.wires(x), "3+1 2+0");
         CHECKS.due("halves()", x.halves(), 2);
         CHECKS.due("total(1)", x.total(1), 7);
         CHECKS.gates(x, new int[]{12, 0, 0, 0});
@@ -208,13 +200,6 @@ public final class GateTest {
         }
     }
 
-    private static void refused(PathSums x, int kind, int a, int b, int c) {
-        String before = Checks.state(x);
-        String call = "gate(" + kind + ", " + a + ", " + b + ", " + c + ")";
-        CHECKS.due(call, x.gate(kind, a, b, c), false);
-        CHECKS.due("state behind " + call, Checks.state(x), before);
-    }
-
     private static PathSums filled() {
         PathSums x = opened(4);
         CHECKS.gates(x, new int[]{1, 0, 1, 0}, new int[]{0, 2, 0, 0}, new int[]{10, 1, 0, 0}, new int[]{5, 0, 0, 0});
@@ -224,7 +209,7 @@ public final class GateTest {
     private static void refusesKinds() {
         PathSums x = filled();
         for (int kind : new int[]{-1, -2, 13, 14, 100, Integer.MIN_VALUE, Integer.MAX_VALUE}) {
-            refused(x, kind, 0, 1, 2);
+            CHECKS.refusedGate(x, kind, 0, 1, 2);
         }
     }
 
@@ -232,23 +217,23 @@ public final class GateTest {
         PathSums x = filled();
         for (int none : new int[]{-1, 4, 5, 6, 32, Integer.MIN_VALUE, Integer.MAX_VALUE}) {
             for (int kind = 0; kind <= 12; kind++) {
-                refused(x, kind, none, 1, 2);
+                CHECKS.refusedGate(x, kind, none, 1, 2);
             }
             for (int kind : new int[]{1, 2, 8, 9}) {
-                refused(x, kind, 0, none, 2);
+                CHECKS.refusedGate(x, kind, 0, none, 2);
             }
-            refused(x, 9, 0, 1, none);
+            CHECKS.refusedGate(x, 9, 0, 1, none);
         }
         for (int kind : new int[]{1, 2, 8, 9}) {
-            refused(x, kind, 3, 3, 2);
+            CHECKS.refusedGate(x, kind, 3, 3, 2);
         }
-        refused(x, 9, 3, 2, 3);
-        refused(x, 9, 3, 2, 2);
-        refused(x, 9, 1, 1, 1);
+        CHECKS.refusedGate(x, 9, 3, 2, 3);
+        CHECKS.refusedGate(x, 9, 3, 2, 2);
+        CHECKS.refusedGate(x, 9, 1, 1, 1);
         PathSums one = new PathSums();
         for (int kind : new int[]{1, 2, 8, 9}) {
-            refused(one, kind, 0, 1, 2);
-            refused(one, kind, 0, 0, 0);
+            CHECKS.refusedGate(one, kind, 0, 1, 2);
+            CHECKS.refusedGate(one, kind, 0, 0, 0);
         }
     }
 
@@ -260,7 +245,7 @@ public final class GateTest {
         CHECKS.due("total(2)", x.total(2), 24);
         CHECKS.due("total(1)", x.total(1), (1 << 24) - 1);
         for (int kind = 10; kind <= 12; kind++) {
-            refused(x, kind, 0, 0, 0);
+            CHECKS.refusedGate(x, kind, 0, 0, 0);
         }
         CHECKS.gates(x, new int[]{0, 0, 0, 0}, new int[]{5, 0, 0, 0});
         x.begin(1, 0);
@@ -271,13 +256,13 @@ public final class GateTest {
         CHECKS.due("reduce()", x.reduce(), 12);
         CHECKS.due("all went, two by two", x.total(1), 0);
         CHECKS.due("24 came all the same", x.total(2), 24);
-        refused(x, 10, 0, 0, 0);
+        CHECKS.refusedGate(x, 10, 0, 0, 0);
         for (int wires = 1; wires <= 6; wires++) {
             x.open(wires);
             for (int i = wires; i < 24; i++) {
                 CHECKS.gates(x, new int[]{11, 0, 0, 0});
             }
-            refused(x, 11, 0, 0, 0);
+            CHECKS.refusedGate(x, 11, 0, 0, 0);
         }
     }
 
@@ -288,7 +273,7 @@ public final class GateTest {
         CHECKS.due("reduce()", x.reduce(), 1);
         CHECKS.due("EMPTY", x.total(5), 1);
         for (int kind = 0; kind <= 12; kind++) {
-            refused(x, kind, 0, 1, 2);
+            CHECKS.refusedGate(x, kind, 0, 1, 2);
         }
     }
 }

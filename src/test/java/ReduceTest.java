@@ -47,13 +47,9 @@ public final class ReduceTest {
         for (int i = before; i < x.total(4); i++) {
             gotRules.append('[').append(x.rule(i, 0)).append(' ').append(x.rule(i, 1)).append(' ').append(x.rule(i, 2)).append(']');
         }
-        StringBuilder gotWires = new StringBuilder();
-        for (int i = 0; i < x.total(0); i++) {
-            gotWires.append(i == 0 ? "" : " ").append(x.wire(i, 0)).append('+').append(x.wire(i, 1));
-        }
         CHECKS.due(run + ": rules", gotRules.toString(), rules);
         CHECKS.due(run + ": reduce()", done, x.total(4) - before);
-        CHECKS.due(run + ": wires", gotWires.toString(), wires);
+        CHECKS.due(run + ": wires", Checks.wires(x), wires);
         CHECKS.due(run + ": terms", Checks.terms(x), terms);
         CHECKS.due(run + ": halves", x.halves(), halves);
         CHECKS.due(run + ": reduce() again", x.reduce(), 0);

@@ -50,7 +50,7 @@ public final class StartTest {
     }
 
     private static void beginRefuses() {
-        PathSums x = used();
+        PathSums x = Sums.used(CHECKS);
         String before = Checks.state(x);
         for (int wires : NO_WIRES) {
             CHECKS.due("begin(" + wires + ", 0)", x.begin(wires, 0), false);
@@ -65,10 +65,10 @@ public final class StartTest {
     }
 
     private static void beginClears() {
-        PathSums x = used();
+        PathSums x = Sums.used(CHECKS);
         CHECKS.due("begin(1, 0) of a used one", x.begin(1, 0), true);
         CHECKS.due("state of one begun again", Checks.state(x), NEW_STATE);
-        x = emptied();
+        x = Sums.empty(CHECKS);
         CHECKS.due("begin(1, 0) of an EMPTY one", x.begin(1, 0), true);
         CHECKS.due("state of one begun again", Checks.state(x), NEW_STATE);
         CHECKS.due("its amplitude", Checks.amplitude(x, 0, 0), "1 0 0 0 0");
@@ -100,7 +100,7 @@ public final class StartTest {
     }
 
     private static void openRefuses() {
-        PathSums x = used();
+        PathSums x = Sums.used(CHECKS);
         String before = Checks.state(x);
         for (int wires : NO_WIRES) {
             CHECKS.due("open(" + wires + ")", x.open(wires), false);
@@ -110,10 +110,10 @@ public final class StartTest {
 
     private static void openClears() {
         String want = "2 3 2 0 0 0 1 h 0 wire 1+0 wire 2+0 wire -1+-1 wire -1+-1 wire -1+-1 wire -1+-1 terms";
-        PathSums x = used();
+        PathSums x = Sums.used(CHECKS);
         CHECKS.due("open(2) of a used one", x.open(2), true);
         CHECKS.due("state of one opened again", Checks.state(x), want);
-        x = emptied();
+        x = Sums.empty(CHECKS);
         CHECKS.due("open(2) of an EMPTY one", x.open(2), true);
         CHECKS.due("state of one opened again", Checks.state(x), want);
         CHECKS.due("begin(2, 2) of an open one", x.begin(2, 2), true);
@@ -124,34 +124,8 @@ public final class StartTest {
     private static void objectsAreApart() {
         PathSums x = new PathSums();
         String before = Checks.state(x);
-        used();
-        emptied();
+        Sums.used(CHECKS);
+        Sums.empty(CHECKS);
         CHECKS.due("state of one that others do not touch", Checks.state(x), before);
-    }
-
-    /** With BITS, MONOMIALS, HALVES, a constant and RULES done. */
-    private static PathSums used() {
-        PathSums x = new PathSums();
-        x.open(3);
-        x.gate(10, 0, 0, 0);
-        x.gate(10, 0, 0, 0);
-        x.gate(10, 0, 0, 0);
-        x.gate(5, 1, 0, 0);
-        x.gate(0, 2, 0, 0);
-        x.gate(9, 0, 1, 2);
-        x.reduce();
-        CHECKS.due("the used one's rules", x.total(4), 1);
-        return x;
-    }
-
-    private static PathSums emptied() {
-        PathSums x = new PathSums();
-        x.begin(3, 7);
-        x.gate(10, 1, 0, 0);
-        x.gate(5, 1, 0, 0);
-        x.gate(11, 2, 0, 0);
-        x.reduce();
-        CHECKS.due("the EMPTY one's total(5)", x.total(5), 1);
-        return x;
     }
 }
