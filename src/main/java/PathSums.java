@@ -362,28 +362,23 @@ public final class PathSums {
                     add(factor | 1 << i, single);
                     // A multiple of 4 is one of 8 as soon as it is doubled.
                     if ((single & 3) != 0) {
-                        addPairsBelow(i, single, xor, factor | 1 << i);
+                        addProductsBelow(i, single, xor, factor | 1 << i);
                     }
                 }
             }
         }
 
-        private void addPairsBelow(int i, int single, int xor, int factor) {
+        private void addProductsBelow(int i, int single, int xor, int factor) {
             for (int j = 0; j < i; j++) {
-                if (has(xor, j)) {
-                    add(factor | 1 << j, -2 * single);
-                    if (has(single, 0)) {
-                        addTriplesBelow(j, xor, factor | 1 << j);
-                    }
+                if (!has(xor, j)) {
+                    continue;
                 }
-            }
-        }
-
-        /** 4 times an odd number is 4. */
-        private void addTriplesBelow(int j, int xor, int factor) {
-            for (int k = 0; k < j; k++) {
-                if (has(xor, k)) {
-                    add(factor | 1 << k, 4);
+                add(factor | 1 << j, -2 * single);
+                // 4 times an odd number is 4, times an even one none.
+                for (int k = 0; k < j && has(single, 0); k++) {
+                    if (has(xor, k)) {
+                        add(factor | 1 << j | 1 << k, 4);
+                    }
                 }
             }
         }
