@@ -600,6 +600,7 @@ public final class PathSums {
             b = tallies[1] - tallies[5];
             c = tallies[2] - tallies[6];
             d = tallies[3] - tallies[7];
+            // The RULES never bring h below 0, but the document's h is any whole number.
             for (int i = h; i < 0; i++) {
                 multiplyByR();
             }

@@ -12,6 +12,7 @@ public final class RuleEdgesTest {
         noRuleForABitInAValue();
         ruleOne();
         ruleTwo();
+        ruleTwoOnEachWire();
         ruleTwoInputsStay();
         ruleTwoOnlyForFourAlone();
         ruleThreeNotOfInputsAlone();
@@ -117,6 +118,17 @@ public final class RuleEdgesTest {
         CHECKS.due("EMPTY", x.total(5), 1);
         x = reduced("[2 0 -1]", "0+1", "", 0, "begin 1 1", "5 0", "11 0");
         CHECKS.due("EMPTY, that of no BIT goes, too", x.total(3), 0);
+    }
+
+    private static void ruleTwoOnEachWire() {
+        CHECKS.sentence("Promise 5: 2: all BITS but INPUTS go (in VALUES, too): of each WIRE");
+        for (int wire = 0; wire < 6; wire++) {
+            int measured = (wire + 1) % 6;
+            PathSums x = Sums.of(CHECKS, "begin 6 63", "10 " + wire, "0 " + wire, "11 " + measured);
+            CHECKS.due("the BIT in the VALUE of " + wire, x.wire(wire, 0), 1);
+            CHECKS.due("reduce()", x.reduce(), 1);
+            CHECKS.due("VALUES", Checks.wires(x), "0+1 0+1 0+1 0+1 0+1 0+1");
+        }
     }
 
     private static void ruleTwoInputsStay() {

@@ -27,6 +27,8 @@ public final class ValueEdgesTest {
         theEighthRoots();
         partsBelowZero();
         mostWays();
+        productsOfThree();
+        begunInBetween();
         noBitsAtAll();
         inputsAsTheInputTells();
         onlyTheOutputsWays();
@@ -272,6 +274,27 @@ public final class ValueEdgesTest {
         Sums.go(CHECKS, x, "5 0", "10 0");
         CHECKS.due("the last BIT counts, to 0", Checks.amplitude(x, 0, 0), "1 1 0 0 2");
         CHECKS.due("the last BIT counts, to 1", Checks.amplitude(x, 0, 1), "1 -1 0 0 2");
+    }
+
+    private static void productsOfThree() {
+        CHECKS.sentence("Promise 9: w^(the POLYNOMIAL's value): products of at most three different BITS");
+        PathSums x = Sums.of(CHECKS, "begin 3 0", "10 0", "10 1", "10 2", "9 0 1 2", "10 0", "10 1", "10 2");
+        // seven ways with 1, one with -1
+        CHECKS.due("6 / r^6", Checks.amplitude(x, 0, 0), "3 0 0 0 4");
+        CHECKS.due("2 / r^6", Checks.amplitude(x, 0, 1), "1 0 0 0 4");
+        CHECKS.due("-2 / r^6", Checks.amplitude(x, 0, 3), "-1 0 0 0 4");
+        CHECKS.due("2 / r^6", Checks.amplitude(x, 0, 7), "1 0 0 0 4");
+    }
+
+    private static void begunInBetween() {
+        CHECKS.sentence("Promise 9: the BITS that are there: those of a SUM of before count for nothing");
+        PathSums x = Sums.of(CHECKS, "begin 1 0", "10 0", "5 0", "10 0");
+        CHECKS.due("two BITS", Checks.amplitude(x, 0, 0), "1 1 0 0 2");
+        Sums.go(CHECKS, x, "open 2", "5 0", "8 0 1", "10 0");
+        CHECKS.due("BITS 0 and 1 are INPUTS, 3 to 2", Checks.amplitude(x, 3, 2), "0 -1 0 0 1");
+        CHECKS.due("BITS 0 and 1 are INPUTS, 3 to 3", Checks.amplitude(x, 3, 3), "0 1 0 0 1");
+        Sums.go(CHECKS, x, "begin 1 1", "10 0");
+        CHECKS.due("BIT 0 is one again", Checks.amplitude(x, 0, 1), "-1 0 0 0 1");
     }
 
     private static void noBitsAtAll() {
