@@ -9,6 +9,8 @@ public final class FaceTest {
     private static final String FACE = "[boolean begin(int,int), boolean gate(int,int,int,int), boolean open(int), int halves(), "
             + "int reduce(), int rule(int,int), int term(int), int total(int), int wire(int,int), long value(int,int,int)]";
 
+    private static final String VALUE_THROWS = "[java.lang.ArithmeticException, java.util.NoSuchElementException]";
+
     public static void main(String[] args) {
         Checks checks = new Checks();
         TreeSet<String> methods = new TreeSet<>();
@@ -30,6 +32,15 @@ public final class FaceTest {
         for (Field f : PathSums.class.getDeclaredFields()) {
             boolean seen = f.getModifiers() == (Modifier.PUBLIC | Modifier.STATIC | Modifier.FINAL) && f.getName().equals("NONE");
             checks.due("field " + f.getName(), seen || Modifier.isPrivate(f.getModifiers()), true);
+        }
+        for (Method m : PathSums.class.getMethods()) {
+            if (m.getDeclaringClass() == PathSums.class) {
+                TreeSet<String> declared = new TreeSet<>();
+                for (Class<?> exception : m.getExceptionTypes()) {
+                    declared.add(exception.getName());
+                }
+                checks.due(m.getName() + " throws", declared.toString(), m.getName().equals("value") ? VALUE_THROWS : "[]");
+            }
         }
         checks.due("NONE", PathSums.NONE, -1);
         checks.due("the class", PathSums.class.getModifiers() == (Modifier.PUBLIC | Modifier.FINAL), true);
